@@ -36,7 +36,8 @@ public final class WakePark {
     private static final int EAST = 1;
     private static final int SOUTH = 2;
     private static final int SIDES = 4;
-    private static final int ALL_WINDS = 124;
+    private static final int STRENGTHS = 31;
+    private static final int ALL_WINDS = SIDES * STRENGTHS;
 
     private static final int TO_TURN = 0;
     private static final int TO_SHUT = 1;
@@ -47,8 +48,8 @@ public final class WakePark {
     private static final Word[] WORDS = Word.values();
 
     private final Tape tape = new Tape();
-    private final Reader reader = new Reader(tape);
     private Park park = new Park();
+    private final Reader reader = new Reader(tape, park);
     private Park spare = new Park();
     private final State now = new State();
     private final State trial = new State();
@@ -198,13 +199,13 @@ public final class WakePark {
         trial.begin(park);
         for (int i = 0; i < lines.size; i++) {
             int line = lines.get(i);
+            int deed = line / 100;
             int before = trial.broken;
-            if (!runLine(trial, line) && cannot == NONE) {
+            if (deed == TO_STEP) {
+                flow.runStep(park, trial);
+                breaking = breaking == NONE && trial.broken != before ? i : breaking;
+            } else if (!trial.act(park, deed, line / 10 % 10, line % 10) && cannot == NONE) {
                 cannot = i;
-            }
-            // Mending only clears bits, so a new bit can come from a step alone.
-            if ((trial.broken & ~before) != 0 && breaking == NONE) {
-                breaking = i;
             }
         }
         return what == 0 ? cannot : what == 1 ? breaking : trial.sold;
@@ -222,7 +223,9 @@ public final class WakePark {
             return NONE;
         }
         trial.copy(now);
-        runSteps(trial, steps);
+        for (int i = 0; i < steps; i++) {
+            flow.runStep(park, trial);
+        }
         flow.measure(park, trial);
         return flow.brought;
     }
@@ -232,7 +235,11 @@ public final class WakePark {
             return NO_SUM;
         }
         trial.copy(now);
-        return runSteps(trial, steps);
+        int sold = 0;
+        for (int i = 0; i < steps; i++) {
+            sold += flow.runStep(park, trial);
+        }
+        return sold;
     }
 
     public int breaks(int turbine) {
@@ -419,9 +426,10 @@ public final class WakePark {
         int blows = park.blows.round(now.step);
         int fortieths = 0;
         for (int from = 0; from < SIDES; from++) {
-            flow.blow(park, now, blows, from);
+            flow.take(park, now, from);
+            flow.give(park, now, blows);
             fortieths += flow.given[turbine] >= power ? odds : 0;
-            flow.blow(park, now, blows / 2, from);
+            flow.give(park, now, blows / 2);
             fortieths += flow.given[turbine] >= power ? 10 - odds : 0;
         }
         return fortieths * 25000;
@@ -547,23 +555,6 @@ public final class WakePark {
         }
     }
 
-    private boolean runLine(State state, int line) {
-        int deed = line / 100;
-        if (deed == TO_STEP) {
-            flow.runStep(park, state);
-            return true;
-        }
-        return state.act(park, deed, line / 10 % 10, line % 10);
-    }
-
-    private int runSteps(State state, int steps) {
-        int sold = 0;
-        for (int i = 0; i < steps; i++) {
-            sold += flow.runStep(park, state);
-        }
-        return sold;
-    }
-
     private int takenNow(int turbine, int other) {
         if (!now.runs(turbine)) {
             return 0;
@@ -627,11 +618,12 @@ public final class WakePark {
         final boolean free;
         final long key;
 
+        /** The key is counted as the tape counts it: five bits a letter. */
         Word(String text, boolean free) {
             this.free = free;
             long packed = 0;
             for (int i = 0; i < text.length(); i++) {
-                packed = Tape.packed(packed, text.charAt(i));
+                packed = packed * 32 + (text.charAt(i) - 'a' + 1);
             }
             this.key = packed;
         }
@@ -683,11 +675,9 @@ public final class WakePark {
         int at;
         int value;
         long key;
+        /** The known word that is looked at, or null. */
+        Word word;
         private int next;
-
-        static long packed(long before, int letter) {
-            return before * 32 + (letter - 'a' + 1);
-        }
 
         void put(long eight) {
             for (int shift = 56; shift >= 0; shift -= 8) {
@@ -702,8 +692,6 @@ public final class WakePark {
 
         void clear() {
             length = 0;
-            next = 0;
-            kind = END;
         }
 
         void start() {
@@ -714,6 +702,7 @@ public final class WakePark {
         /** Looks at the token behind this one; a sign's kind is its own number. */
         void pass() {
             int place = next;
+            word = null;
             while (place < length && (signs[place] == '\n' || signs[place] == ' ')) {
                 place++;
             }
@@ -721,9 +710,9 @@ public final class WakePark {
             if (place >= length) {
                 kind = END;
                 next = length;
-            } else if (isLetter(signs[place])) {
+            } else if (signs[place] >= 'a' && signs[place] <= 'z') {
                 takeWord(place);
-            } else if (isFigure(signs[place])) {
+            } else if (signs[place] >= '0' && signs[place] <= '9') {
                 takeNumber(place);
             } else {
                 kind = isSign(signs[place]) ? signs[place] : STRANGE;
@@ -731,47 +720,29 @@ public final class WakePark {
             }
         }
 
-        /** The known word that is looked at, or null. */
-        Word known() {
-            if (kind != WORD) {
-                return null;
-            }
-            for (int i = 0; i < WORDS.length; i++) {
-                if (WORDS[i].key == key) {
-                    return WORDS[i];
-                }
-            }
-            return null;
-        }
-
         private void takeWord(int first) {
             int place = first;
             key = 0;
-            while (place < length && isLetter(signs[place])) {
-                key = packed(key, signs[place]);
+            while (place < length && signs[place] >= 'a' && signs[place] <= 'z') {
+                key = key * 32 + (signs[place] - 'a' + 1);
                 place++;
             }
             kind = place - first <= 8 ? WORD : STRANGE;
             next = place;
+            for (int i = 0; kind == WORD && word == null && i < WORDS.length; i++) {
+                word = WORDS[i].key == key ? WORDS[i] : null;
+            }
         }
 
         private void takeNumber(int first) {
             int place = first;
             value = 0;
-            while (place < length && isFigure(signs[place])) {
+            while (place < length && signs[place] >= '0' && signs[place] <= '9') {
                 value = value * 10 + (signs[place] - '0');
                 place++;
             }
             kind = place - first <= 4 ? NUMBER : STRANGE;
             next = place;
-        }
-
-        private static boolean isLetter(int sign) {
-            return sign >= 'a' && sign <= 'z';
-        }
-
-        private static boolean isFigure(int sign) {
-            return sign >= '0' && sign <= '9';
         }
 
         private static boolean isSign(int sign) {
@@ -1003,8 +974,9 @@ public final class WakePark {
         private int named;
         private int told;
 
-        Reader(Tape tape) {
+        Reader(Tape tape, Park park) {
             this.tape = tape;
+            this.park = park;
         }
 
         int readPark(Park target) {
@@ -1036,7 +1008,7 @@ public final class WakePark {
         }
 
         private boolean readParkLine() {
-            Word word = tape.known();
+            Word word = tape.word;
             if (word == null) {
                 return fail(WRONG);
             }
@@ -1067,7 +1039,7 @@ public final class WakePark {
             }
             long name = tape.key;
             tape.pass();
-            int kind = kindOf(tape.known());
+            int kind = kindOf(tape.word);
             if (kind == NONE) {
                 return fail(WRONG);
             }
@@ -1112,13 +1084,16 @@ public final class WakePark {
         }
 
         private boolean readGoal() {
-            Word word = tape.known();
+            Word word = tape.word;
+            if (word != Word.HOME && word != Word.TO) {
+                return fail(WRONG);
+            }
+            tape.pass();
             if (word == Word.HOME) {
                 named = HOMEWARD;
-                tape.pass();
                 return true;
             }
-            if (!passWord(Word.TO) || !isTurbine()) {
+            if (!isTurbine()) {
                 return false;
             }
             // One's own cable is not told yet, so this refuses a cable to oneself too.
@@ -1175,7 +1150,7 @@ public final class WakePark {
                 return false;
             }
             for (int n = 0; n < TAPE_ROOM; n++) {
-                Word word = tape.known();
+                Word word = tape.word;
                 if (word != Word.AND && word != Word.OR) {
                     return true;
                 }
@@ -1235,7 +1210,7 @@ public final class WakePark {
 
         private boolean readPart(int within) {
             int sign = tape.kind;
-            Word word = tape.known();
+            Word word = tape.word;
             int fact = factOf(word);
             if (sign != Tape.NUMBER && sign != '(' && word != Word.NOT && fact == 0) {
                 return fail(WRONG);
@@ -1255,7 +1230,7 @@ public final class WakePark {
         }
 
         private boolean readDayLine() {
-            int deed = deedOf(tape.known());
+            int deed = deedOf(tape.word);
             if (deed == NONE) {
                 return fail(WRONG);
             }
@@ -1304,7 +1279,7 @@ public final class WakePark {
         }
 
         private boolean passWord(Word word) {
-            if (tape.known() != word) {
+            if (tape.word != word) {
                 return fail(WRONG);
             }
             tape.pass();
@@ -1328,7 +1303,7 @@ public final class WakePark {
         }
 
         private boolean isName() {
-            Word word = tape.known();
+            Word word = tape.word;
             return tape.kind == Tape.WORD && (word == null || word.free);
         }
 
@@ -1499,21 +1474,12 @@ public final class WakePark {
         int brought;
 
         void measure(Park park, State state) {
-            blow(park, state, park.blows.round(state.step), park.from.round(state.step));
+            take(park, state, park.from.round(state.step));
+            give(park, state, park.blows.round(state.step));
             bring(park, NOTHING_FAILS);
         }
 
-        /** What reaches whom and what each gives, by some wind. */
-        void blow(Park park, State state, int blows, int from) {
-            take(park, state, from);
-            sum = 0;
-            for (int i = 0; i < park.count; i++) {
-                reach[i] = Park.left(blows, taken[i]);
-                given[i] = state.runs(i) ? park.gives(reach[i], state.worn[i], state.angles[i], state.step) : 0;
-                sum += given[i];
-            }
-        }
-
+        /** What is TAKEN of each by a wind from there. */
         void take(Park park, State state, int from) {
             for (int i = 0; i < park.count; i++) {
                 int tenths = 0;
@@ -1523,6 +1489,16 @@ public final class WakePark {
                     }
                 }
                 taken[i] = park.takenOf(i, tenths);
+            }
+        }
+
+        /** What reaches each and what it gives, by what was TAKEN last. */
+        void give(Park park, State state, int blows) {
+            sum = 0;
+            for (int i = 0; i < park.count; i++) {
+                reach[i] = Park.left(blows, taken[i]);
+                given[i] = state.runs(i) ? park.gives(reach[i], state.worn[i], state.angles[i], state.step) : 0;
+                sum += given[i];
             }
         }
 
@@ -1550,7 +1526,8 @@ public final class WakePark {
         }
 
         int runStep(Park park, State state) {
-            int sold = sold(park, state);
+            measure(park, state);
+            int sold = brought * park.priceAt(state.step);
             for (int i = 0; i < park.count; i++) {
                 if (state.runs(i)) {
                     state.wear(park, i, taken[i]);
@@ -1725,17 +1702,16 @@ public final class WakePark {
             least = NONE;
             greatest = NONE;
             sides = 0;
-            for (int wind = 0; wind < ALL_WINDS; wind++) {
-                int blows = wind / SIDES;
-                int from = wind % SIDES;
-                flow.blow(park, state, blows, from);
-                System.arraycopy(flow.given, 0, gifts, wind * MOST_TURBINES, MOST_TURBINES);
-                fits[wind] = isAsSeen(flow, sights);
-                if (fits[wind]) {
-                    fitting++;
-                    least = least == NONE ? blows : least;
-                    greatest = blows;
-                    sides |= 1 << from;
+            for (int from = 0; from < SIDES; from++) {
+                flow.take(park, state, from);
+                for (int blows = 0; blows < STRENGTHS; blows++) {
+                    int wind = from * STRENGTHS + blows;
+                    flow.give(park, state, blows);
+                    System.arraycopy(flow.given, 0, gifts, wind * MOST_TURBINES, MOST_TURBINES);
+                    fits[wind] = isAsSeen(flow, sights);
+                    if (fits[wind]) {
+                        note(blows, from);
+                    }
                 }
             }
         }
@@ -1752,6 +1728,13 @@ public final class WakePark {
                 }
             }
             return most;
+        }
+
+        private void note(int blows, int from) {
+            fitting++;
+            least = least == NONE || blows < least ? blows : least;
+            greatest = Math.max(greatest, blows);
+            sides |= 1 << from;
         }
 
         private static boolean isAsSeen(Flow flow, Numbers sights) {

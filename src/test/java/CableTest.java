@@ -97,6 +97,8 @@ public final class CableTest {
         x.turn(1, 0);
         Check.same("b turned aside", x.robbed(1), 0);
         Check.same("none", new WakePark().robbed(2), 0);
+        WakePark z = Check.told("turbine a plain of 1 at 6;turbine b plain of 2 at 0;turbine c plain of 1 at 12;blows 20;");
+        Check.same("of 1: a 20 for 10, c 10 for 4", z.robbed(1), 16);
         WakePark y = Check.told("turbine a plain of 2 at 0;turbine b old of 1 at 6;wears 2;from 0;");
         Check.same("b", y.robbed(1), 5);
         y.step();

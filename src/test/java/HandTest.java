@@ -9,6 +9,7 @@ public final class HandTest {
         turning();
         shuttingAndOpening();
         mending();
+        lawsNotTold();
         stepping();
         wearing();
         undoing();
@@ -95,6 +96,17 @@ public final class HandTest {
             if (slack) {
                 y.undo();
             }
+        }
+    }
+
+    private static void lawsNotTold() {
+        WakePark x = Check.told("turbine a plain of 1 at 0;turbine b plain of 1 at 6;");
+        Check.same("wears 20", x.breaks(1), 20);
+        Check.same("wakes 5", x.takes(0, 1), 5);
+        x = Check.told("turbine a plain of 1 at 0;turbine b plain of 1 at 6;wears 1;slack 1;");
+        for (int step = 1; step < 14; step++) {
+            x.step();
+            Check.is("slack 1: each step", x.mend(1));
         }
     }
 

@@ -176,8 +176,13 @@ public final class RestTest {
         Check.same("the tape stays", x.count(12), 2);
         Check.same("a faulty park", x.park(), 1);
         Check.is("leaves marks", x.mark(3, true));
+        for (int mark = 0; mark < 4; mark++) {
+            Check.is("laid", x.mark(mark, false));
+        }
         Check.same("a park", Check.readPark(x, FOUR), 0);
-        Check.isNot("takes them", x.mark(3, true));
+        for (int mark = 0; mark < 4; mark++) {
+            Check.isNot("takes them", x.mark(mark, true));
+        }
     }
 
     private static void counting() {

@@ -226,6 +226,11 @@ public final class SeaTest {
             x.mend(1);
             x.step();
         }
+        x = Check.told("turbine a plain of 1 at 0;gives 0;");
+        for (int step = 0; step < 12; step++) {
+            Check.same("0 is 0 by night too", x.power(0), 0);
+            x.step();
+        }
         x = Check.told("turbine a plain of 1 at 0;turbine b old of 1 at 6;gives wind+10*angle+30*worn;wears 99;");
         Check.same("a", x.power(0), 10);
         Check.same("b", x.power(1), 5);
