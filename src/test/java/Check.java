@@ -1,11 +1,21 @@
+import java.util.HashSet;
 import java.util.NoSuchElementException;
+import java.util.Set;
 
 /** Counts what is as due and prints what is not. */
 final class Check {
     private static int passed;
     private static int failed;
+    private static final Set<String> SENTENCES = new HashSet<>();
+    private static String sentence = "";
 
     private Check() {
+    }
+
+    /** From here on the checks are those of this sentence of the document, as this promise needs it. */
+    static void says(int promise, String words) {
+        sentence = "promise " + promise + ", \"" + words + "\": ";
+        SENTENCES.add(sentence);
     }
 
     static void same(String what, long got, long due) {
@@ -13,7 +23,7 @@ final class Check {
             passed++;
         } else {
             failed++;
-            System.out.println(what + " answered " + got + ", due is " + due);
+            System.out.println(sentence + what + " answered " + got + ", due is " + due);
         }
     }
 
@@ -80,7 +90,7 @@ final class Check {
     }
 
     static void end() {
-        System.out.println(passed + " passed, " + failed + " failed");
+        System.out.println((SENTENCES.isEmpty() ? "" : SENTENCES.size() + " sentences, ") + passed + " passed, " + failed + " failed");
         if (failed != 0) {
             System.exit(1);
         }
