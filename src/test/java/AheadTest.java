@@ -247,6 +247,16 @@ public final class AheadTest {
         x = Check.told("turbine a plain of 1 at 1;turbine b plain of 1 at 7;turbine c plain of 1 at 6;"
             + "cable a home holds 6;cable b home holds 99;cable c home holds 99;price 11;");
         row(x, "east", 26, 4, 2, 2);
+        row(Check.told(ONE + "cable a home holds 99;price 20;gives 10*(wind=10);"), "by all the wind alone", 100, 2);
+        x = Check.told("turbine b plain of 1 at 6;turbine a plain of 1 at 0;cable b home holds 99;cable a home holds 99;price 11;");
+        row(x, "the first one stands behind", 16, 2, 0);
+        x = Check.told("turbine b plain of 1 at 6;turbine a plain of 1 at 0;cable b home holds 99;cable a home holds 99;price 9;");
+        // Of a 6 and of b 6, or of a, turned by one, 9 and of b 3: by both 12 come home.
+        row(x, "the least, the first one behind", -12, 0, 0);
+        // b, straight, takes of c, turned to the west of a, turned to the east of none.
+        x = Check.told("turbine a plain of 1 at 12;turbine b plain of 1 at 1;turbine c plain of 1 at 13;cable a home holds 99;"
+            + "cable b home holds 9;cable c home holds 99;price 11;");
+        row(x, "to the one side alone", 29, 2, 3, 2);
         // Whoever is turned by two leaves all behind it alone; the last one needs not.
         row(Check.told(COLUMN + "wakes 9 9 9;price 11;"), "six", 40, 0, 0, 0, 0, 0, 2);
         row(Check.told(COLUMN + "wakes 0 0 0;price 11;"), "six without wakes", 60, 2, 2, 2, 2, 2, 2);
@@ -308,6 +318,10 @@ public final class AheadTest {
         Check.same("b is not", y.alone(1, 1), 2);
         Check.same("of the other owner", y.alone(2, -1), 0);
         Check.same("as it is", y.alone(2, 1), 2);
+        y = Check.told("turbine b plain of 1 at 6;" + ONE);
+        Check.same("the first one stands behind", y.alone(1, -1), 16);
+        Check.same("b is not turned", y.alone(1, 0), 2);
+        Check.same("a is", y.alone(1, 1), 0);
         WakePark z = Check.told(COLUMN + "wakes 9 9 9;");
         Check.same("six", z.alone(1, -1), 40);
         for (int i = 0; i < 6; i++) {

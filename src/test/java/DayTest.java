@@ -99,6 +99,20 @@ public final class DayTest {
             int[] due = {30, 63, 90, 63, 30};
             Check.same("sold", x.judged(2), due[angle]);
         }
+        for (int turbine = 0; turbine < 6; turbine++) {
+            WakePark x = Check.told("turbine a plain of 1 at 0;turbine b plain of 1 at 1;turbine c plain of 1 at 2;"
+                + "turbine d plain of 1 at 3;turbine e plain of 1 at 4;turbine f plain of 1 at 5;cable a home holds 200;"
+                + "cable b home holds 200;cable c home holds 200;cable d home holds 200;cable e home holds 200;"
+                + "cable f home holds 200;price 11;");
+            char name = (char) ('a' + turbine);
+            for (int angle = 0; angle <= 4; angle++) {
+                Check.same("turn " + name + " " + angle, Check.readDay(x, "turn " + name + " " + angle + ";step;"), 0);
+                Check.same("sold", x.judged(2), angle == 2 ? 60 : angle % 2 == 1 ? 59 : 56);
+            }
+            Check.same("shut " + name, Check.readDay(x, "shut " + name + ";step;shut " + name + ";"), 0);
+            Check.same("can't be", x.judged(0), 2);
+            Check.same("sold", x.judged(2), 50);
+        }
         Check.dayFault(TWO, 4, "turn a ^5;");
         Check.dayFault(TWO, 4, "turn a ^9999;");
         Check.dayFault(TWO, 1, "turn a ^-1;");

@@ -222,6 +222,9 @@ public final class LawTest {
         Check.same("9 < 7", worth("5+(9<7)"), 5);
         Check.same("9 = 9", worth("5+(9=9)"), 6);
         Check.same("below 0 is less", worth("0-1<0"), 1);
+        Check.same("no less than 0 comes of and", worth("5+(0 and 9)"), 5);
+        Check.same("no less than 0 comes of or", worth("5+(0 or 0)"), 5);
+        Check.same("no less than 0 comes of =", worth("5+(9=8)"), 5);
     }
 
     private static void notZeroIsSo() {

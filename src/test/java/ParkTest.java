@@ -36,6 +36,7 @@ public final class ParkTest {
         theFirstTokenThatIsWrong();
         theLeastKind();
         theParkFromThenOn();
+        oneParkBehindAnother();
         allStays();
         Check.end();
     }
@@ -433,7 +434,7 @@ public final class ParkTest {
 
     private static void theParkFromThenOn() {
         String sea = "turbine a plain of 1 at 0;turbine b old of 2 at 6;cable a home holds 9;price 20;wears 2;slack 1;gives 50;"
-            + "blows 3;";
+            + "blows 3;from 2;wakes 1 1 1;";
         Check.says(3, "Without a FAULT a PARK is the PARK from then on: step 0");
         WakePark x = lived(sea);
         Check.same("step", x.count(1), 0);
@@ -462,6 +463,7 @@ public final class ParkTest {
         }
         Check.says(3, "Without gives: wind.");
         Check.same("what was told before counts no more: blows", x.count(2), 10);
+        Check.same("from", x.count(3), 0);
         Check.same("price", x.count(4), 0);
         Check.same("gives", x.power(0), 10);
         x.turn(0, 1);
@@ -475,6 +477,39 @@ public final class ParkTest {
         x = lived(sea);
         Check.same("by the new names", Check.readDay(x, "shut x;turn y 4;open z;"), 0);
         Check.same("not by the old ones", Check.readDay(x, "shut b;"), 2 + 16 * 5);
+    }
+
+    private static void oneParkBehindAnother() {
+        Check.says(3, "Without a FAULT a PARK is the PARK from then on");
+        String tied = TWO + "cable a to b holds 7;from 2;wakes 1 2 3;wears 9;slack 9;price 12;blows 20;gives 8;";
+        WakePark x = new WakePark();
+        for (int i = 0; i < 3; i++) {
+            Check.same("with cables", Check.readPark(x, tied), 0);
+            Check.same("home", x.home(), 9);
+            Check.same("carried", x.carried(0), 7);
+            Check.same("sold", x.step(), 18);
+            Check.same("without", Check.readPark(x, "turbine q old of 2 at 0;turbine r old of 2 at 6;"), 0);
+            for (int turbine = 0; turbine < 2; turbine++) {
+                Check.same("no cable", x.turbine(turbine, 7), -1);
+                Check.same("it holds nothing", x.turbine(turbine, 8), 0);
+                Check.same("it carries nothing", x.carried(turbine), 0);
+                Check.same("no hop", x.hops(turbine), 0);
+            }
+            Check.same("from the north, five tenths", x.wind(1), 5);
+            Check.same("home", x.home(), 0);
+            Check.same("wears 20 by two", x.breaks(1), 10);
+        }
+        // Twice the same kind of park, so that each is told where another one was.
+        for (int i = 0; i < 4; i++) {
+            Check.same("the same again", Check.readPark(x, tied), 0);
+            Check.same("home", x.home(), 9);
+            Check.same("dear", x.dear(), 1);
+        }
+        for (int i = 0; i < 3; i++) {
+            Check.same("none", Check.readPark(x, ONE), 0);
+            Check.same("holds", x.turbine(0, 8), 0);
+            Check.same("from", x.count(3), 0);
+        }
     }
 
     /** Of the park told first everything was done; then another one was read. */

@@ -48,6 +48,15 @@ public final class SeenTest {
         guess("0", y, 0, -1, -1, 0);
         y.shut(0);
         guess("0 of one that is shut", y, 124, 0, 30, 15);
+        for (int i = 0; i < 6; i++) {
+            WakePark z = Check.told(SIX + "gives 99*(wind<30);");
+            z.shut(i);
+            z.see(i, 0);
+            guess("0 of " + i, z, 124, 0, 30, 15);
+            z.open(i);
+            z.see(i, 99);
+            guess("both can't be", z, 0, -1, -1, 0);
+        }
     }
 
     private static void seeingOthers() {
@@ -222,6 +231,12 @@ public final class SeenTest {
         guess("four", z, 4, 9, 9, 15);
         // Of the four b gives 9, 9, 2 (5 and 3 are taken), 9; c 4, 9, 4, 9; d 2, 9, 9, 9.
         Check.same("c", z.ask(), 2);
+        // By 9 from anywhere at e, of the four a has less by one, b by another one: three of four are alike.
+        WakePark e = Check.told(TWO + "turbine e plain of 1 at 35;");
+        e.see(2, 9);
+        guess("four", e, 4, 9, 9, 15);
+        Check.same("a", e.ask(), 0);
+        Check.same("by the greatest POWER", Check.told(ONE + "gives 99*(wind<15);").ask(), 0);
         WakePark last = Check.told(SIX);
         for (int i = 0; i < 5; i++) {
             last.shut(i);

@@ -266,6 +266,8 @@ public final class TapeTest {
                 Check.parkFault(1, "gives 1^" + sign + "1;");
                 Check.parkFault(1, "gives ^" + sign + "1;");
                 Check.dayFault("", 1, "step ^" + sign + ";");
+                Check.parkFault(1, "cable ^" + sign + " home holds 1;");
+                Check.dayFault("", 1, "shut ^" + sign + ";");
             }
         }
         WakePark y = new WakePark();
