@@ -1,3 +1,5 @@
+import java.util.Random;
+
 /** Promises 17 to 25, sentence by sentence: who takes of whom, what comes, the best ANGLES, who should be shut. */
 public final class AheadTest {
     private static final String ONE = "turbine a plain of 1 at 0;";
@@ -21,6 +23,7 @@ public final class AheadTest {
         lost();
         best();
         bestOfEqualOnes();
+        bestByTryingAll();
         bestOthers();
         alone();
         aloneOfEqualOnes();
@@ -253,6 +256,10 @@ public final class AheadTest {
         x = Check.told("turbine b plain of 1 at 6;turbine a plain of 1 at 0;cable b home holds 99;cable a home holds 99;price 9;");
         // Of a 6 and of b 6, or of a, turned by one, 9 and of b 3: by both 12 come home.
         row(x, "the least, the first one behind", -12, 0, 0);
+        row(Check.told(ONE + "cable a home holds 99;price 20;blows 20;gives 10*(angle=1)*(wind=20);"), "by one angle alone", 90, 1);
+        // b gives nothing, but leaves a half of the wind, by which alone a gives something, of which its cable carries 9.
+        row(Check.told("turbine a plain of 1 at 6;turbine b plain of 1 at 0;cable a home holds 9;price 11;blows 20;"
+            + "gives 10*(wind=10);"), "by half of the wind alone", 9, 1, 1);
         // b, straight, takes of c, turned to the west of a, turned to the east of none.
         x = Check.told("turbine a plain of 1 at 12;turbine b plain of 1 at 1;turbine c plain of 1 at 13;cable a home holds 99;"
             + "cable b home holds 9;cable c home holds 99;price 11;");
@@ -279,6 +286,75 @@ public final class AheadTest {
             "19 of 20", 19, 1, 2);
         row(Check.told("turbine b plain of 1 at 1;turbine a plain of 1 at 0;cable a home holds 16;cable b to a holds 99;price 11;"),
             "16 of 20", 16, 0, 2);
+    }
+
+    /** Seas of three near one another, by chance but always the same: all rows are tried by hand. */
+    private static void bestByTryingAll() {
+        Random random = new Random(17);
+        String[] kinds = {"plain", "tall", "old", "small"};
+        String[] laws = {"", "gives 10*(wind=20);", "gives 3*wind-20*angle;", "gives 99*(wind<17)+wind;", "gives wind*wind-50;"};
+        for (int sea = 0; sea < 80; sea++) {
+            StringBuilder text = new StringBuilder();
+            int[] cells = {random.nextInt(3), 3 + random.nextInt(3), 6 + random.nextInt(3)};
+            for (int i = 0; i < 3; i++) {
+                int cell = 7 + cells[(i + sea) % 3] / 3 * 6 + cells[(i + sea) % 3] % 3;
+                text.append("turbine ").append((char) ('a' + i)).append(' ').append(kinds[random.nextInt(4)]).append(" of ");
+                text.append(1 + random.nextInt(2)).append(" at ").append(cell).append(';');
+                if (random.nextInt(6) > 0) {
+                    text.append("cable ").append((char) ('a' + i)).append(" home holds ").append(5 + random.nextInt(25)).append(';');
+                }
+            }
+            text.append("blows 20;from ").append(random.nextInt(4)).append(";price ").append(random.nextInt(4) > 0 ? 13 : 7);
+            text.append(";wakes ").append(random.nextInt(10)).append(' ').append(random.nextInt(10)).append(" 2;");
+            text.append(laws[random.nextInt(laws.length)]);
+            tryAll(text.toString());
+        }
+    }
+
+    private static void tryAll(String sea) {
+        WakePark x = Check.told(sea);
+        int price = x.count(4);
+        int most = Integer.MIN_VALUE;
+        int best = 0;
+        int[] owned = new int[3];
+        int[] first = {-1, -1, -1};
+        for (int row = 0; row < 125; row++) {
+            int[] angles = {row / 25, row / 5 % 5, row % 5};
+            boolean[] own = {true, true, true};
+            for (int i = 0; i < 3; i++) {
+                x.turn(i, angles[i]);
+                // Those of another owner are as they are: straight.
+                own[1] &= x.turbine(i, 1) == 1 || angles[i] == 2;
+                own[2] &= x.turbine(i, 1) == 2 || angles[i] == 2;
+            }
+            if (x.home() * price > most) {
+                most = x.home() * price;
+                best = row;
+            }
+            for (int owner = 1; owner <= 2; owner++) {
+                int power = 0;
+                for (int i = 0; i < 3; i++) {
+                    power += x.turbine(i, 1) == owner ? x.power(i) : 0;
+                }
+                if (own[owner] && (first[owner] < 0 || power > owned[owner])) {
+                    owned[owner] = power;
+                    first[owner] = row;
+                }
+            }
+            if (row % 25 == 24) {
+                x = Check.told(sea);
+            }
+        }
+        int[] unit = {25, 5, 1};
+        Check.same("best of " + sea, x.best(-1), most);
+        for (int owner = 1; owner <= 2; owner++) {
+            Check.same("alone of " + sea, x.alone(owner, -1), owned[owner]);
+        }
+        for (int i = 0; i < 3; i++) {
+            Check.same("best row of " + sea, x.best(i), best / unit[i] % 5);
+            Check.same("row of 1 of " + sea, x.alone(1, i), first[1] / unit[i] % 5);
+            Check.same("row of 2 of " + sea, x.alone(2, i), first[2] / unit[i] % 5);
+        }
     }
 
     private static void bestOthers() {
