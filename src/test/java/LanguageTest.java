@@ -1,57 +1,19 @@
 import java.io.IOException;
 import java.lang.management.ManagementFactory;
-import java.lang.reflect.Constructor;
 import java.lang.reflect.Field;
 import java.lang.reflect.Method;
 import java.lang.reflect.Modifier;
-import java.nio.file.Files;
-import java.nio.file.Path;
 import java.util.List;
 import java.util.Set;
 import java.util.TreeSet;
 
-/** Rules of LANGUAGE.md that can be looked up: the face, sizes, words that are not used, what a run makes. */
+/** Rules of LANGUAGE.md that can be looked up: sizes, words that are not used, what a run makes. */
 public final class LanguageTest {
-    private static final String FACE = "int feed(long,long,long);int park();int day();int turbine(int,int);int wind(int);"
-        + "int power(int);int carried(int);int home();int turn(int,int);boolean shut(int);boolean open(int);boolean mend(int);"
-        + "int step();boolean undo();int judged(int);int takes(int,int);int later(int);int total(int);int breaks(int);"
-        + "int lost();int best(int);int alone(int,int);int idle();int straight();int full();int dear();int fault(int);"
-        + "int robbed(int);int front();int shade(int);int hops(int);boolean see(int,int);int winds(int);int ask();"
-        + "int chance(int,int,int);int rests(int,int,int,int);int days(int,int,int);boolean mark(int,boolean);int count(int);";
-
     public static void main(String[] args) throws IOException {
-        face();
         classes();
         source();
         room();
         Check.end();
-    }
-
-    private static void face() {
-        Set<String> due = new TreeSet<>(List.of(FACE.split(";")));
-        Set<String> got = new TreeSet<>();
-        for (Method m : WakePark.class.getDeclaredMethods()) {
-            if (Modifier.isPublic(m.getModifiers())) {
-                StringBuilder s = new StringBuilder(m.getReturnType().getName() + " " + m.getName() + "(");
-                for (Class<?> type : m.getParameterTypes()) {
-                    s.append(s.charAt(s.length() - 1) == '(' ? "" : ",").append(type.getName());
-                }
-                got.add(s + ")");
-                Check.isNot("static " + m, Modifier.isStatic(m.getModifiers()));
-            } else {
-                Check.is("private " + m, Modifier.isPrivate(m.getModifiers()));
-            }
-        }
-        Check.is("the face is " + got, got.equals(due));
-        Check.same("public final", WakePark.class.getModifiers(), Modifier.PUBLIC | Modifier.FINAL);
-        Constructor<?>[] made = WakePark.class.getDeclaredConstructors();
-        Check.is("one constructor", made.length == 1 && made[0].getParameterCount() == 0
-            && made[0].getModifiers() == Modifier.PUBLIC);
-        for (Field f : WakePark.class.getDeclaredFields()) {
-            boolean none = f.getName().equals("NONE");
-            Check.same("field " + f, f.getModifiers() & (Modifier.PUBLIC | Modifier.PROTECTED | Modifier.PRIVATE),
-                none ? Modifier.PUBLIC : Modifier.PRIVATE);
-        }
     }
 
     private static void classes() {
@@ -85,8 +47,7 @@ public final class LanguageTest {
     }
 
     private static void source() throws IOException {
-        String path = System.getProperty("wakepark.source", "src/main/java/WakePark.java");
-        List<String> lines = Files.readAllLines(Path.of(path));
+        List<String> lines = List.of(Pages.source().split("\n"));
         int start = 0;
         for (int i = 0; i < lines.size(); i++) {
             String line = lines.get(i);
